@@ -28,11 +28,11 @@ public final class ShadeTown {
     private final Town townKept = new Town();
     private boolean somethingKept = false;
     private final Day day = new Day(town, law);
-    private final Strips strips = new Strips(day);
-    private final Walks walks = new Walks(day);
-    private final Market market = new Market(day);
-    private final Wishes wishes = new Wishes(town, day);
-    private final Clouds clouds = new Clouds(town, day);
+    private final Strips strips = new Strips();
+    private final Walks walks = new Walks();
+    private final Market market = new Market();
+    private final Wishes wishes = new Wishes();
+    private final Clouds clouds = new Clouds();
 
     public ShadeTown() {
     }
@@ -139,15 +139,16 @@ public final class ShadeTown {
         if (!isHour(hour)) {
             return NO_SUN;
         }
+        Day today = today();
         switch (what) {
             case 0:
-                return day.isUp(hour) ? 1 : 0;
+                return today.isUp(hour) ? 1 : 0;
             case 1:
-                return day.eastAt(hour);
+                return today.eastAt(hour);
             case 2:
-                return day.northAt(hour);
+                return today.northAt(hour);
             case 3:
-                return day.cloudAt(hour);
+                return today.cloudAt(hour);
             default:
                 return NO_SUN;
         }
@@ -157,26 +158,27 @@ public final class ShadeTown {
         if (!inTown(x, y) || !isHour(hour)) {
             return NONE;
         }
-        return day.whoCasts(hour, SIDE * y + x);
+        return today().whoCasts(hour, SIDE * y + x);
     }
 
     public int price(int x, int y, int hour) {
         if (!inTown(x, y) || !isHour(hour)) {
             return NONE;
         }
-        return day.priceOf(hour, SIDE * y + x);
+        return today().priceOf(hour, SIDE * y + x);
     }
 
     public int cast(int c, int hour) {
         if (!town.isCaster(c) || hour < 0 || hour > HOURS) {
             return NONE;
         }
+        Day today = today();
         if (hour < HOURS) {
-            return day.squaresOf(c, hour);
+            return today.squaresOf(c, hour);
         }
         int together = 0;
         for (int h = 0; h < HOURS; h++) {
-            together += day.squaresOf(c, h);
+            together += today.squaresOf(c, h);
         }
         return together;
     }
@@ -185,7 +187,7 @@ public final class ShadeTown {
         if (!isOwner(owner) || what < 0 || what > 1) {
             return NONE;
         }
-        long above = day.partsOf(town.standingOf(owner));
+        long above = today().partsOf(town.standingOf(owner));
         return lowest(above, Day.WHOLE, what);
     }
 
@@ -193,7 +195,7 @@ public final class ShadeTown {
         if (!inTown(x, y) || what < 0 || what > 1) {
             return NONE;
         }
-        int row = day.longestRow(SIDE * y + x);
+        int row = today().longestRow(SIDE * y + x);
         if (what == 0) {
             return row / HOURS;
         }
@@ -204,11 +206,12 @@ public final class ShadeTown {
         if (what < 0 || what > 1) {
             return NONE;
         }
+        Day today = today();
         int bestSquare = THERE_IS_NONE;
         int bestHours = THERE_IS_NONE;
         for (int square = SIDE; square < SQUARES; square++) {
-            if (day.isFree(square) && town.houseOn(square - SIDE) != NONE) {
-                int hours = day.longestRow(square) / HOURS;
+            if (today.isFree(square) && town.houseOn(square - SIDE) != NONE) {
+                int hours = today.longestRow(square) / HOURS;
                 if (hours > bestHours) {
                     bestHours = hours;
                     bestSquare = square;
@@ -223,7 +226,7 @@ public final class ShadeTown {
         if (!areHours(from, to, Strips.MOST_HOURS) || !asked) {
             return NOT_SO;
         }
-        if (!strips.find(from, to)) {
+        if (!strips.find(today(), from, to)) {
             return THERE_IS_NONE;
         }
         if (what == NONE) {
@@ -233,13 +236,14 @@ public final class ShadeTown {
     }
 
     public int walk(int from, int to, int hour, int what) {
-        if (!isHour(hour) || what < 0 || what > 2 || !day.isFree(from) || !day.isFree(to)) {
+        Day today = today();
+        if (!isHour(hour) || what < 0 || what > 2 || !today.isFree(from) || !today.isFree(to)) {
             return NONE;
         }
         if (what == 0) {
-            return walks.soonestInShade(from, to, hour);
+            return walks.soonestInShade(today, from, to, hour);
         }
-        int least = walks.leastSun(from, to, hour);
+        int least = walks.leastSun(today, from, to, hour);
         if (least < 0) {
             return THERE_IS_NONE;
         }
@@ -258,7 +262,7 @@ public final class ShadeTown {
         if (!market.isTold(i) || !inTown(x, y) || !isHour(hour)) {
             return NONE;
         }
-        return market.worthOf(i, SIDE * y + x, hour);
+        return market.worthOf(today(), i, SIDE * y + x, hour);
     }
 
     public int sale(int hour, int buyers, int what) {
@@ -270,7 +274,7 @@ public final class ShadeTown {
         if (!market.areTold(buyers)) {
             return THERE_IS_NONE;
         }
-        market.sell(hour, buyers);
+        market.sell(today(), hour, buyers);
         if (what == NONE) {
             return market.together();
         }
@@ -286,11 +290,12 @@ public final class ShadeTown {
     }
 
     public int kept(int k) {
-        return wishes.isTold(k) ? wishes.hoursKept(k) : NONE;
+        return wishes.isTold(k) ? wishes.hoursKept(today(), k) : NONE;
     }
 
     public int happy() {
-        return wishes.happiness(true) + wishes.happiness(false);
+        Day today = today();
+        return wishes.happiness(today, true) + wishes.happiness(today, false);
     }
 
     public int storey(int c, int what) {
@@ -298,8 +303,9 @@ public final class ShadeTown {
             return NO_STOREY;
         }
         town.trial(c, town.place[c], Math.min(TALLEST, town.size[c] + 12));
+        Day today = today();
         boolean forSun = what == 1;
-        int more = wishes.happinessOnTrial(c, forSun) - wishes.happiness(forSun);
+        int more = wishes.happinessOnTrial(today, c, forSun) - wishes.happiness(today, forSun);
         return forSun ? -more : more;
     }
 
@@ -307,12 +313,13 @@ public final class ShadeTown {
         if (!isLength(length) || what < 0 || what > 2) {
             return NONE;
         }
-        int before = happy();
-        int best = wishes.bestAwningOf(length);
+        Day today = today();
+        int best = wishes.bestAwningOf(today, length);
         if (best < 0) {
             return THERE_IS_NONE;
         }
         if (what == 2) {
+            int before = wishes.happiness(today, true) + wishes.happiness(today, false);
             return before + wishes.gainOfAwning(best / 4, best % 4, length);
         }
         return what == 0 ? best / 4 : best % 4;
@@ -323,22 +330,23 @@ public final class ShadeTown {
             return NONE;
         }
         town.trial(c, SIDE * y + x, town.size[c]);
+        Day today = today();
         int changed = 0;
         for (int hour = 0; hour < HOURS; hour++) {
-            changed += day.changedByTrial(c, hour, what == 0);
+            changed += today.changedByTrial(c, hour, what == 0);
         }
         return changed;
     }
 
     public int takenDown() {
-        return wishes.inTheWayOfSun();
+        return wishes.inTheWayOfSun(today(), town);
     }
 
     public int noon(int n, int i) {
         if (n < 1 || n > 60 || !market.isTold(i)) {
             return NONE;
         }
-        return market.noonsOf(i, n);
+        return market.noonsOf(i, n, today().shadedSquares(12));
     }
 
     public int years(int n) {
@@ -357,7 +365,7 @@ public final class ShadeTown {
         if (n < 1 || n > 30) {
             return NONE;
         }
-        return clouds.drawDays(n);
+        return clouds.drawDays(today(), town, n);
     }
 
     public int purse(int owner) {
@@ -368,11 +376,12 @@ public final class ShadeTown {
         if (!areHours(from, to, 18) || what < 0 || what > 1) {
             return NONE;
         }
+        Day today = today();
         long above = 1;
         long below = 1;
         for (int hour = from; hour < to; hour++) {
-            if (day.isUp(hour)) {
-                above *= 10 - day.cloudAt(hour);
+            if (today.isUp(hour)) {
+                above *= 10 - today.cloudAt(hour);
                 below *= 10;
             }
         }
@@ -406,9 +415,10 @@ public final class ShadeTown {
         if (!isHour(hour) || !inTown(0, y) || n < 0 || n > SIDE || n * 4 > tape.length()) {
             return THERE_IS_NONE;
         }
+        Day today = today();
         int answer = NONE;
         for (int x = 0; x < n && answer == NONE; x++) {
-            if (tape.intAt(x) != Integer.bitCount(day.whoCasts(hour, SIDE * y + x))) {
+            if (tape.intAt(x) != Integer.bitCount(today.whoCasts(hour, SIDE * y + x))) {
                 answer = x;
             }
         }
@@ -435,7 +445,7 @@ public final class ShadeTown {
             case 7:
                 return wishes.toldBits();
             case 8:
-                return day.howManyFree();
+                return today().howManyFree();
             default:
                 return NONE;
         }
@@ -454,8 +464,14 @@ public final class ShadeTown {
         return grown;
     }
 
+    /** The day as it is now: all that asks for sun or shade gets it from here, so nothing sees an old one. */
+    private Day today() {
+        day.know();
+        return day;
+    }
+
     private boolean isFree(int x, int y) {
-        return inTown(x, y) && day.isFree(SIDE * y + x);
+        return inTown(x, y) && today().isFree(SIDE * y + x);
     }
 
     private static boolean inTown(int x, int y) {
@@ -568,8 +584,10 @@ public final class ShadeTown {
         static final int OR = 4;
         static final int NOT = 5;
 
-        // two cells a byte of the text at most, and two ends a clause
-        private static final int CELLS = 2 * LONGEST_LAW + 2 * MOST_CLAUSES;
+        // two cells a byte of the text at most, two ends a clause, and one to look at behind the last
+        private static final int CELLS = 2 * LONGEST_LAW + 2 * MOST_CLAUSES + 1;
+        // six deep, with no more than three that wait on each level
+        private static final int STACK = 32;
 
         private final int[] code = new int[CELLS];
         private int used = 0;
@@ -578,8 +596,7 @@ public final class ShadeTown {
         private final int[] holdsStart = new int[MOST_CLAUSES];
         private int number = 0;
         private final int[] told = new int[9];
-        private final int[] stack = new int[64];
-        private int top = 0;
+        private final int[] stack = new int[STACK];
 
         int clauses() {
             return number;
@@ -664,84 +681,55 @@ public final class ShadeTown {
         }
 
         boolean anyHolds(char letter) {
-            return firstThatHolds(letter) != NONE;
+            for (int k = 0; k < number; k++) {
+                if (letterOf[k] == letter && run(holdsStart[k]) != 0) {
+                    return true;
+                }
+            }
+            return false;
         }
 
         int valueOf(char letter, int least, int most) {
-            int clause = firstThatHolds(letter);
-            if (clause == NONE) {
-                return 0;
-            }
-            return Math.max(least, Math.min(most, run(valueStart[clause])));
-        }
-
-        private int firstThatHolds(char letter) {
             for (int k = 0; k < number; k++) {
                 if (letterOf[k] == letter && run(holdsStart[k]) != 0) {
-                    return k;
-                }
-            }
-            return NONE;
-        }
-
-        /** What comes out; 0 (a condition does not hold, too) if it is refused. */
-        private int run(int start) {
-            top = 0;
-            int at = start;
-            for (int step = 0; step < CELLS && at >= 0 && at < CELLS; step++) {
-                int op = code[at];
-                int next = at + 1 < CELLS ? code[at + 1] : 0;
-                if (op == END) {
-                    return pop();
-                }
-                if (op == NUMBER || op == LETTER) {
-                    push(op == NUMBER ? next : letterValue(next));
-                    at += 2;
-                } else if (op == AND || op == OR) {
-                    at = afterJump(op, at, next);
-                } else if (op == NOT) {
-                    push(1 - pop());
-                    at++;
-                } else {
-                    int right = pop();
-                    int left = pop();
-                    if (right == 0 && (op == '/' || op == '%')) {
-                        return 0;
-                    }
-                    push(reckon(op, left, right));
-                    at++;
+                    return Math.max(least, Math.min(most, run(valueStart[k])));
                 }
             }
             return 0;
         }
 
-        private int afterJump(int op, int at, int aim) {
-            int held = pop();
-            boolean settled = op == AND ? held == 0 : held != 0;
-            if (settled) {
-                push(held);
-                return aim;
+        /**
+         * What comes out; 0 if it is refused, by which a condition does not hold, too. The reader takes no text
+         * that goes beyond the stack or below it.
+         */
+        private int run(int start) {
+            int top = 0;
+            int at = start;
+            for (int step = 0; step < CELLS && at >= 0 && at + 1 < CELLS && top < STACK; step++) {
+                int op = code[at];
+                int with = code[at + 1];
+                if (op == NUMBER || (op == LETTER && with >= 0 && with < told.length)) {
+                    stack[top] = op == NUMBER ? with : told[with];
+                    top++;
+                    at += 2;
+                } else if (top == 0 || op == END) {
+                    return top == 0 ? 0 : stack[top - 1];
+                } else if (op == AND || op == OR) {
+                    boolean settled = (stack[top - 1] == 0) == (op == AND);
+                    top -= settled ? 0 : 1;
+                    at = settled ? with : at + 2;
+                } else if (op == NOT) {
+                    stack[top - 1] = 1 - stack[top - 1];
+                    at++;
+                } else if (top < 2 || (stack[top - 1] == 0 && (op == '/' || op == '%'))) {
+                    return 0;
+                } else {
+                    top--;
+                    stack[top - 1] = reckon(op, stack[top - 1], stack[top]);
+                    at++;
+                }
             }
-            return at + 2;
-        }
-
-        private int letterValue(int letter) {
-            return letter >= 0 && letter < told.length ? told[letter] : 0;
-        }
-
-        private void push(int value) {
-            if (top < stack.length) {
-                stack[top] = value;
-                top++;
-            }
-        }
-
-        private int pop() {
-            if (top <= 0) {
-                return 0;
-            }
-            top--;
-            return stack[top];
+            return 0;
         }
 
         private static int reckon(int op, int left, int right) {
@@ -778,6 +766,7 @@ public final class ShadeTown {
 
         private final Tape tape;
         private final Law law;
+        private final int[] text = new int[LONGEST_LAW];
         private int length = 0;
         private int place = 0;
         private int fault = 0;
@@ -789,7 +778,10 @@ public final class ShadeTown {
 
         /** How many clauses, or the fault as a number below 0. */
         int readLaw(int bytes) {
-            length = bytes;
+            length = Math.min(bytes, LONGEST_LAW);
+            for (int k = 0; k < length; k++) {
+                text[k] = tape.byteAt(k);
+            }
             place = 0;
             fault = 0;
             law.clear();
@@ -797,7 +789,7 @@ public final class ShadeTown {
         }
 
         private int sign() {
-            return place < length ? tape.byteAt(place) : NONE;
+            return place >= 0 && place < length ? text[place] : NONE;
         }
 
         private boolean isOneOf(String signs) {
@@ -909,10 +901,6 @@ public final class ShadeTown {
             if (sign() == '(') {
                 return stepDeeper(depth) && readParts(depth + 1) && step(')');
             }
-            return readComparison(depth);
-        }
-
-        private boolean readComparison(int depth) {
             if (!readSum(depth)) {
                 return false;
             }
@@ -1127,28 +1115,32 @@ public final class ShadeTown {
             shadeKnown = false;
         }
 
+        void know() {
+            if (!skyKnown) {
+                knowSky();
+            }
+            if (!shadeKnown) {
+                knowShade();
+            }
+        }
+
         boolean isUp(int hour) {
-            knowSky();
             return isHour(hour) && up[hour];
         }
 
         int eastAt(int hour) {
-            knowSky();
             return isHour(hour) ? east[hour] : 0;
         }
 
         int northAt(int hour) {
-            knowSky();
             return isHour(hour) ? north[hour] : 0;
         }
 
         int cloudAt(int hour) {
-            knowSky();
             return isHour(hour) ? cloud[hour] : 0;
         }
 
         boolean isFree(int square) {
-            knowShade();
             return square >= 0 && square < SQUARES && !built[square];
         }
 
@@ -1161,12 +1153,11 @@ public final class ShadeTown {
         }
 
         int whoCasts(int hour, int square) {
-            return isFree(square) && isHour(hour) ? reached[hour * SQUARES + square] : 0;
+            return isFree(square) ? whoReaches(hour, square) : 0;
         }
 
         /** Who would cast on a square if no house stood on it. */
         int whoReaches(int hour, int square) {
-            knowShade();
             return isHour(hour) && square >= 0 && square < SQUARES ? reached[hour * SQUARES + square] : 0;
         }
 
@@ -1231,7 +1222,6 @@ public final class ShadeTown {
 
         /** Makes known where the trial caster casts in an hour. */
         void layTrial(int hour) {
-            knowShade();
             Arrays.fill(trialReached, 0);
             if (isUp(hour)) {
                 spread(Town.TRIAL, hour, trialReached, 0, 1);
@@ -1261,9 +1251,6 @@ public final class ShadeTown {
         }
 
         private void knowSky() {
-            if (skyKnown) {
-                return;
-            }
             for (int hour = 0; hour < HOURS; hour++) {
                 law.askHour(hour, town.season);
                 up[hour] = law.anyHolds('u');
@@ -1275,29 +1262,23 @@ public final class ShadeTown {
         }
 
         private void knowShade() {
-            if (shadeKnown) {
-                return;
-            }
-            knowSky();
             Arrays.fill(reached, 0);
             for (int square = 0; square < SQUARES; square++) {
                 built[square] = false;
             }
             for (int c = 0; c < town.number; c++) {
-                if (town.isStanding(c)) {
-                    spreadOverDay(c);
-                    built[town.place[c]] |= town.kind[c] == Town.HOUSE;
+                if (town.isStandingOf(c, Town.HOUSE)) {
+                    built[town.place[c]] = true;
                 }
             }
-            shadeKnown = true;
-        }
-
-        private void spreadOverDay(int c) {
-            for (int hour = 0; hour < HOURS; hour++) {
-                if (up[hour]) {
+            for (int k = 0; k < HOURS * town.number; k++) {
+                int hour = k % HOURS;
+                int c = k / HOURS;
+                if (up[hour] && town.isStanding(c)) {
                     spread(c, hour, reached, hour * SQUARES, 1 << c);
                 }
             }
+            shadeKnown = true;
         }
 
         private void spread(int c, int hour, int[] into, int base, int bit) {
@@ -1336,22 +1317,17 @@ public final class ShadeTown {
         private static final int MOVES = 16;
         private static final int NEVER = 1 << 28;
 
-        private final Day day;
         private final int[] toEnd = new int[MOST_HOURS * SQUARES];
         private final int[] row = new int[MOST_HOURS];
         private int first = 0;
         private int cost = NEVER;
 
-        Strips(Day day) {
-            this.day = day;
-        }
-
-        boolean find(int from, int to) {
+        boolean find(Day day, int from, int to) {
             first = from;
             cost = NEVER;
             int hours = Math.min(MOST_HOURS, to - from);
             for (int k = hours - 1; k >= 0; k--) {
-                reckonHour(k, k == hours - 1);
+                reckonHour(day, k, k == hours - 1);
             }
             for (int square = 0; square < SQUARES; square++) {
                 if (toEnd[square] < cost) {
@@ -1378,7 +1354,7 @@ public final class ShadeTown {
             return k >= 0 && k < MOST_HOURS ? row[k] : NONE;
         }
 
-        private void reckonHour(int k, boolean last) {
+        private void reckonHour(Day day, int k, boolean last) {
             for (int square = 0; square < SQUARES; square++) {
                 int least = NEVER;
                 if (day.whoCasts(first + k, square) != 0) {
@@ -1422,31 +1398,26 @@ public final class ShadeTown {
         private static final int MOST_PARTS = 36;
         private static final int NEVER = 1000;
 
-        private final Day day;
         private int[] now = new int[SQUARES];
         private int[] next = new int[SQUARES];
 
-        Walks(Day day) {
-            this.day = day;
-        }
-
-        int soonestInShade(int from, int to, int hour) {
+        int soonestInShade(Day day, int from, int to, int hour) {
             begin(from);
             for (int part = 0; part < MOST_PARTS_IN_SHADE; part++) {
                 if (now[to] == 0) {
                     return part;
                 }
-                step((hour + part / PARTS_OF_HOUR) % HOURS);
+                step(day, (hour + part / PARTS_OF_HOUR) % HOURS);
             }
             return now[to] == 0 ? MOST_PARTS_IN_SHADE : THERE_IS_NONE;
         }
 
         /** Parts in the sun times 1000, and parts; THERE_IS_NONE if it can't be. */
-        int leastSun(int from, int to, int hour) {
+        int leastSun(Day day, int from, int to, int hour) {
             begin(from);
             int least = now[to] * NEVER;
             for (int part = 0; part < MOST_PARTS; part++) {
-                step((hour + part / PARTS_OF_HOUR) % HOURS);
+                step(day, (hour + part / PARTS_OF_HOUR) % HOURS);
                 least = Math.min(least, now[to] * NEVER + part + 1);
             }
             return least < NEVER * NEVER ? least : THERE_IS_NONE;
@@ -1465,7 +1436,7 @@ public final class ShadeTown {
             now[from] = 0;
         }
 
-        private void step(int hour) {
+        private void step(Day day, int hour) {
             boolean up = day.isUp(hour);
             for (int square = 0; square < SQUARES; square++) {
                 int least = NEVER;
@@ -1502,7 +1473,6 @@ public final class ShadeTown {
         private static final int WORTH_SHIFT = 32;
         private static final int LAST = MOST - 1;
 
-        private final Day day;
         private final int[] place = new int[MOST];
         private int told = 0;
         private final int[] wanted = new int[MOST * MOST];
@@ -1514,10 +1484,6 @@ public final class ShadeTown {
         private final int[] had = new int[MOST];
         private int sold = 0;
         private long sum = 0;
-
-        Market(Day day) {
-            this.day = day;
-        }
 
         boolean isNumber(int i) {
             return i >= 0 && i < MOST;
@@ -1542,7 +1508,7 @@ public final class ShadeTown {
             }
         }
 
-        int worthOf(int i, int square, int hour) {
+        int worthOf(Day day, int i, int square, int hour) {
             if (!isNumber(i)) {
                 return NONE;
             }
@@ -1551,13 +1517,13 @@ public final class ShadeTown {
             return day.worthOf(hour, square, i, eastward + northward);
         }
 
-        void sell(int hour, int buyers) {
+        void sell(Day day, int hour, int buyers) {
             sold = buyers;
             for (int i = 0; i < MOST; i++) {
                 wantedNumber[i] = 0;
                 passed[i] = 0;
                 if ((buyers >> i & 1) == 1) {
-                    findWanted(i, hour);
+                    findWanted(day, i, hour);
                 }
             }
             Arrays.fill(best, NONE);
@@ -1586,9 +1552,9 @@ public final class ShadeTown {
             return without - (together() - own);
         }
 
-        int noonsOf(int i, int days) {
+        int noonsOf(int i, int days, int shaded) {
             Arrays.fill(had, 0);
-            int places = Math.min(MOST, day.shadedSquares(12));
+            int places = Math.min(MOST, shaded);
             for (int d = 0; d < days; d++) {
                 int served = 0;
                 for (int k = 0; k < places; k++) {
@@ -1617,10 +1583,10 @@ public final class ShadeTown {
          * The eight squares of most worth, of like ones the lowest: seven others can't take all of them,
          * so no other square is ever needed. They stand in the order of their numbers.
          */
-        private void findWanted(int i, int hour) {
+        private void findWanted(Day day, int i, int hour) {
             for (int square = 0; square < SQUARES; square++) {
                 if (day.whoCasts(hour, square) != 0) {
-                    want(i, square, worthOf(i, square, hour));
+                    want(i, square, worthOf(day, i, square, hour));
                 }
             }
         }
@@ -1699,8 +1665,6 @@ public final class ShadeTown {
     private static final class Wishes {
         static final int MOST = 16;
 
-        private final Town town;
-        private final Day day;
         private int told = 0;
         private final int[] place = new int[MOST];
         private final int[] from = new int[MOST];
@@ -1708,11 +1672,6 @@ public final class ShadeTown {
         private final boolean[] forSun = new boolean[MOST];
         private final int[] weight = new int[MOST];
         private final int[] gain = new int[SQUARES];
-
-        Wishes(Town town, Day day) {
-            this.town = town;
-            this.day = day;
-        }
 
         boolean isNumber(int k) {
             return k >= 0 && k < MOST;
@@ -1737,32 +1696,32 @@ public final class ShadeTown {
             }
         }
 
-        int hoursKept(int k) {
+        int hoursKept(Day day, int k) {
             int hours = 0;
             for (int hour = 0; hour < HOURS; hour++) {
-                if (isAsked(k, hour) && forSun[k] == (day.whoCasts(hour, place[k]) == 0)) {
+                if (isAsked(day, k, hour) && forSun[k] == (day.whoCasts(hour, place[k]) == 0)) {
                     hours++;
                 }
             }
             return hours;
         }
 
-        int happiness(boolean sun) {
+        int happiness(Day day, boolean sun) {
             int together = 0;
             for (int k = 0; k < MOST; k++) {
                 if (isTold(k) && forSun[k] == sun) {
-                    together += weight[k] * hoursKept(k);
+                    together += weight[k] * hoursKept(day, k);
                 }
             }
             return together;
         }
 
-        int happinessOnTrial(int c, boolean sun) {
+        int happinessOnTrial(Day day, int c, boolean sun) {
             int together = 0;
             for (int hour = 0; hour < HOURS; hour++) {
                 day.layTrial(hour);
                 for (int k = 0; k < MOST; k++) {
-                    boolean asked = isAsked(k, hour) && forSun[k] == sun;
+                    boolean asked = isAsked(day, k, hour) && forSun[k] == sun;
                     if (asked && sun != day.isShadedOnTrial(c, hour, place[k])) {
                         together += weight[k];
                     }
@@ -1772,8 +1731,8 @@ public final class ShadeTown {
         }
 
         /** Four times the square, and the direction; NONE without a free square. */
-        int bestAwningOf(int length) {
-            findGains();
+        int bestAwningOf(Day day, int length) {
+            findGains(day);
             int best = NONE;
             int most = 0;
             for (int square = 0; square < SQUARES; square++) {
@@ -1802,24 +1761,24 @@ public final class ShadeTown {
          * Whoever reaches a wish for sun must go, unless a house that stays keeps its square from being free;
          * a house that must go in turn leaves its square free. So the set grows till nothing follows from it.
          */
-        int inTheWayOfSun() {
+        int inTheWayOfSun(Day day, Town town) {
             int gone = 0;
             for (int round = 0; round <= Town.MOST; round++) {
                 for (int k = 0; k < MOST; k++) {
-                    if (isTold(k) && forSun[k] && !isHeldByHouse(place[k], gone)) {
-                        gone |= whoReachesWish(k);
+                    if (isTold(k) && forSun[k] && !isHeldByHouse(town, place[k], gone)) {
+                        gone |= whoReachesWish(day, k);
                     }
                 }
             }
             return gone;
         }
 
-        private boolean isHeldByHouse(int square, int gone) {
+        private boolean isHeldByHouse(Town town, int square, int gone) {
             int house = town.houseOn(square);
             return house != NONE && (gone >> house & 1) == 0;
         }
 
-        private int whoReachesWish(int k) {
+        private int whoReachesWish(Day day, int k) {
             int who = 0;
             for (int hour = from[k]; hour < to[k]; hour++) {
                 who |= day.whoReaches(hour, place[k]);
@@ -1827,16 +1786,16 @@ public final class ShadeTown {
             return who;
         }
 
-        private boolean isAsked(int k, int hour) {
+        private boolean isAsked(Day day, int k, int hour) {
             return isTold(k) && hour >= from[k] && hour < to[k] && day.isUp(hour) && day.isFree(place[k]);
         }
 
         /** By how much all are happier if somebody casts on a square all day. */
-        private void findGains() {
+        private void findGains(Day day) {
             Arrays.fill(gain, 0);
             for (int k = 0; k < MOST; k++) {
                 for (int hour = 0; hour < HOURS; hour++) {
-                    if (isAsked(k, hour) && day.whoCasts(hour, place[k]) == 0) {
+                    if (isAsked(day, k, hour) && day.whoCasts(hour, place[k]) == 0) {
                         gain[place[k]] += forSun[k] ? -weight[k] : weight[k];
                     }
                 }
@@ -1846,20 +1805,13 @@ public final class ShadeTown {
 
     /** Days by drawn clouds: what each hour brings is the same on all of them, so it is reckoned once. */
     private static final class Clouds {
-        private final Town town;
-        private final Day day;
         private final int[] brought = new int[HOURS * OWNERS];
 
-        Clouds(Town town, Day day) {
-            this.town = town;
-            this.day = day;
-        }
-
-        int drawDays(int days) {
+        int drawDays(Day day, Town town, int days) {
             Arrays.fill(brought, 0);
             for (int hour = 0; hour < HOURS; hour++) {
                 if (day.isUp(hour)) {
-                    bringHour(hour);
+                    bringHour(day, town, hour);
                 }
             }
             int together = 0;
@@ -1867,13 +1819,13 @@ public final class ShadeTown {
                 town.drawn = (25173 * town.drawn + 13849) % 65536;
                 int hour = k % HOURS;
                 if (day.isUp(hour) && town.drawn % 10 >= day.cloudAt(hour)) {
-                    together += payHour(hour);
+                    together += payHour(town, hour);
                 }
             }
             return together;
         }
 
-        private void bringHour(int hour) {
+        private void bringHour(Day day, Town town, int hour) {
             for (int square = 0; square < SQUARES; square++) {
                 int who = day.whoCasts(hour, square);
                 if (who != 0) {
@@ -1887,7 +1839,7 @@ public final class ShadeTown {
             }
         }
 
-        private int payHour(int hour) {
+        private int payHour(Town town, int hour) {
             int together = 0;
             for (int owner = 0; owner < OWNERS; owner++) {
                 int part = brought[hour * OWNERS + owner];
