@@ -5,7 +5,10 @@ public final class ShadeTown {
     public static final int NONE = -1;
 
     private static final int THERE_IS_NONE = -2;
-    private static final int NOT_SO = -3;
+    private static final int HOUSE_IS_THERE = -2;
+    private static final int ONE_IS_NOT_TOLD = -2;
+    private static final int NO_CHECK = -2;
+    private static final int NO_SUCH_ONES = -3;
     private static final int NO_SUN = -100;
     private static final int NO_STOREY = -100000;
     private static final int NOBODY = 144;
@@ -69,7 +72,7 @@ public final class ShadeTown {
         }
         int square = SIDE * y + x;
         if (kind == Town.HOUSE && town.houseOn(square) != NONE) {
-            return THERE_IS_NONE;
+            return HOUSE_IS_THERE;
         }
         day.forgetShade();
         return town.add(kind, square, height, 0, owner);
@@ -224,7 +227,7 @@ public final class ShadeTown {
     public int strip(int from, int to, int what) {
         boolean asked = what == NONE || what == MOVES_OF_STRIP || (what >= from && what < to);
         if (!areHours(from, to, Strips.MOST_HOURS) || !asked) {
-            return NOT_SO;
+            return NO_SUCH_ONES;
         }
         if (!strips.find(today(), from, to)) {
             return THERE_IS_NONE;
@@ -269,10 +272,10 @@ public final class ShadeTown {
         int asked = what >= FIRST_PAYS ? what - FIRST_PAYS : what;
         boolean ofOne = market.isNumber(asked) && (buyers >> asked & 1) == 1;
         if (!isHour(hour) || buyers < 1 || buyers > Market.ALL || (what != NONE && !ofOne)) {
-            return NOT_SO;
+            return NO_SUCH_ONES;
         }
         if (!market.areTold(buyers)) {
-            return THERE_IS_NONE;
+            return ONE_IS_NOT_TOLD;
         }
         market.sell(today(), hour, buyers);
         if (what == NONE) {
@@ -413,7 +416,7 @@ public final class ShadeTown {
 
     public int check(int hour, int y, int n) {
         if (!isHour(hour) || !inTown(0, y) || n < 0 || n > SIDE || n * 4 > tape.length()) {
-            return THERE_IS_NONE;
+            return NO_CHECK;
         }
         Day today = today();
         int answer = NONE;
@@ -1454,14 +1457,12 @@ public final class ShadeTown {
         }
 
         private int leastAround(int square) {
+            int x = square % SIDE;
             int least = now[square];
-            for (int side = 0; side < 4; side++) {
-                int other = beside(square, side);
-                if (other >= 0) {
-                    least = Math.min(least, now[other]);
-                }
-            }
-            return least;
+            least = x > 0 ? Math.min(least, now[square - 1]) : least;
+            least = x < SIDE - 1 ? Math.min(least, now[square + 1]) : least;
+            least = square >= SIDE ? Math.min(least, now[square - SIDE]) : least;
+            return square < SQUARES - SIDE ? Math.min(least, now[square + SIDE]) : least;
         }
     }
 
@@ -1631,12 +1632,18 @@ public final class ShadeTown {
 
         private void takeOffers() {
             for (int buyers = ALL; buyers > 0; buyers--) {
-                for (int i = 0; i < MOST && (buyers & ~sold) == 0; i++) {
-                    if ((buyers >> i & 1) == 1 && offer[i] >= 0) {
-                        long others = best[buyers & ~(1 << i)];
-                        if (others >= 0) {
-                            best[buyers] = Math.max(best[buyers], others + offer[i]);
-                        }
+                if ((buyers & ~sold) == 0) {
+                    takeOffersFor(buyers);
+                }
+            }
+        }
+
+        private void takeOffersFor(int buyers) {
+            for (int i = 0; i < MOST; i++) {
+                if ((buyers >> i & 1) == 1 && offer[i] >= 0) {
+                    long others = best[buyers & ~(1 << i)];
+                    if (others >= 0) {
+                        best[buyers] = Math.max(best[buyers], others + offer[i]);
                     }
                 }
             }

@@ -761,6 +761,15 @@ public final class ShadeTownPromises {
     due("the 72nd part is dark", x.walk(0, 6, 8, 0), 72);
     due("no part more", x.walk(0, 7, 8, 0), -2);
     due("the beginning is not asked", x.walk(1, 0, 12, 0), 1);
+    lawOf(x, "u(t>5&t<18)");
+    due("dark in the 37th part is too late", x.walk(0, 1, 12, 1), 1);
+    due("dark in the 37th part is too late", x.walk(0, 1, 12, 2), 1);
+    due("dark in the 31st part", x.walk(0, 1, 13, 1), 0);
+    due("dark in the 31st part", x.walk(0, 1, 13, 2), 31);
+    due("36 parts", x.walk(0, 6, 13, 1), 0);
+    due("36 parts", x.walk(0, 6, 13, 2), 36);
+    due("36 parts, one in the sun", x.walk(0, 7, 13, 1), 1);
+    due("36 parts, one in the sun", x.walk(0, 7, 13, 2), 36);
     x.caster(0, 1, 0, 1, 0);
     x.caster(0, 0, 1, 1, 0);
     due("shut in", x.walk(0, 2, 0, 0), -2);
@@ -873,6 +882,39 @@ public final class ShadeTownPromises {
     // a house on one of them
     x.caster(0, 1, 0, 1, 0);
     due("a house", x.sale(12, 147, 1), 2);
+    saleOfMany();
+  }
+
+  private static void saleOfMany() {
+    ShadeTown x = under("u(t=12);wx(1=1)");
+    for (int k = 0; k < 4; k++) {
+      x.awning(3 * k, 0, 3, 1, 0);
+    }
+    for (int i = 0; i < 8; i++) {
+      x.buyer(i, 0, 5);
+    }
+    // the squares 4 to 11 are worth most, in the order of the buyers
+    due("all eight", x.sale(12, 255, -1), 60);
+    for (int i = 0; i < 8; i++) {
+      due("square of " + i, x.sale(12, 255, i), 4 + i);
+      due("pays " + i, x.sale(12, 255, 10 + i), i);
+    }
+    lawOf(x, "u(t=12);w9(1=1)");
+    due("all are like", x.sale(12, 255, -1), 72);
+    for (int i = 0; i < 8; i++) {
+      due("square of " + i, x.sale(12, 255, i), i);
+    }
+    // buyer 7 alone wants 0, the others 11 and 10 by turns
+    lawOf(x, "u(t=12);w500(i=7&x=0);w0(i=7);w999(x=11);w100+i(x=10);w1(x=9&i=2)");
+    due("wants apart", x.sale(12, 255, -1), 999 + 106 + 500 + 1);
+    int[] row = {1, 2, 9, 3, 4, 11, 10, 0};
+    for (int i = 0; i < 8; i++) {
+      due("the least row, " + i, x.sale(12, 255, i), row[i]);
+    }
+    due("pays nothing for what is worth nothing", x.sale(12, 255, 10), 0);
+    due("pays the 999 of another", x.sale(12, 255, 15), 999);
+    due("pays what 5 would give", x.sale(12, 255, 16), 105);
+    due("nobody else wants it", x.sale(12, 255, 17), 0);
   }
 
   private static void wish() {
@@ -954,6 +996,13 @@ public final class ShadeTownPromises {
     due("kept before", x.storey(2, 0), 0);
     x.down(0);
     due("gone", x.storey(0, 0), -100000);
+    // 13 high with 9 to the east: 9 squares and no tenth
+    x = under("u(t=12);e9(1=1)");
+    x.caster(0, 0, 0, 1, 0);
+    x.wish(0, 10, 0, 0, 24, false, 7);
+    due("not the tenth", x.storey(0, 0), 0);
+    x.wish(0, 9, 0, 0, 24, false, 7);
+    due("the ninth", x.storey(0, 0), 7);
     // on a house nothing is kept
     x = under("u(t=12);e1(1=1)");
     x.caster(0, 0, 0, 12, 0);
@@ -1130,6 +1179,10 @@ public final class ShadeTownPromises {
     x = under("g1(h<20)");
     x.caster(1, 0, 0, 10, 0);
     due("year by year", x.years(60), 10);
+    x = under("g1+t+x+y+s+i+d(1=1)");
+    x.season(2);
+    x.caster(1, 5, 5, 10, 0);
+    due("what is not told", x.years(1), 1);
     // it casts farther then
     x = under("u(1=1);e2(1=1);g6(1=1)");
     x.caster(1, 0, 0, 6, 0);
@@ -1331,6 +1384,10 @@ public final class ShadeTownPromises {
     due("none at all", x.check(12, 4, 0), -1);
     due("the tape is empty", x.count(3), 0);
     x.feed(256, 0, 0, 0, 0);
+    due("all four bytes", x.check(12, 4, 1), 0);
+    x.feed(0x01000000, 0, 0, 0, 0);
+    due("all four bytes", x.check(12, 4, 1), 0);
+    x.feed(0x00010000, 0, 0, 0, 0);
     due("all four bytes", x.check(12, 4, 1), 0);
   }
 
