@@ -721,6 +721,17 @@ public final class ShadeTownPromises {
     due("the least row stays low", x.strip(0, 4, 2), 0);
     due("then it must go", x.strip(0, 4, 3), 1);
     due("the sum", x.strip(0, 4, -1), 4);
+    // from 1, 1 to one of its four sides, which are all alike: the lowest; then without the lowest, and so on
+    String[] dear = {"", "y=0|", "y=0|x=0|", "y=0|x=0|x=2|"};
+    int[] lowest = {1, 12, 14, 25};
+    for (int k = 0; k < 4; k++) {
+      x = under("u(1=1);p1(x=1&y=1&t=0);p50(t=0);p9(" + dear[k] + "x=1&y=1);p1(1=1)");
+      x.awning(0, 1, 3, 1, 0);
+      x.awning(1, 0, 3, 0, 0);
+      due("from the middle", x.strip(0, 2, 0), 13);
+      due("to a side", x.strip(0, 2, 1), lowest[k]);
+      due("one move", x.strip(0, 2, 30), 1);
+    }
     // apart from one another: no way from one to the other
     x = under("u(1=1);e9(t=1)");
     x.caster(3, 0, 0, 4, 0);
