@@ -15,6 +15,9 @@ public final class ShadeTownAgainstModel {
     for (int seed = 1; seed <= 60 && wrong < 10; seed++) {
       faults(new Random(1000 + seed), seed);
     }
+    for (int seed = 1; seed <= 60 && wrong < 10; seed++) {
+      sales(new Random(2000 + seed), seed);
+    }
     System.out.println(wrong == 0 ? "the class answers as the model does" : "the class and the model differ");
     if (wrong != 0) System.exit(1);
   }
@@ -101,6 +104,29 @@ public final class ShadeTownAgainstModel {
       int n = r.nextInt(8) == 0 ? 1 + r.nextInt(text.length()) : text.length();
       same(seed, "law of " + text.substring(0, n), town.law(n), model.law(n));
       same(seed, "clauses", town.count(2), model.law == null ? 0 : model.law.size());
+    }
+  }
+
+  // many squares and buyers who want the same ones
+  private static void sales(Random r, int seed) {
+    ShadeTown town = new ShadeTown();
+    Model model = new Model();
+    String[] worths = {"w[x*7+y*5+i*d]%30(1=1)", "w[x*y+i]%4(1=1)", "w[x+y]%5+i*[x%2](1=1)", "w[x*x*3+y*y*5+x*y*7]%[11+i](1=1)", "wd(i<4)", "w[x*7+y*5]%31(1=1)"};
+    String law = "u(1=1);" + worths[r.nextInt(worths.length)];
+    feed(town, model, law);
+    same(seed, law, town.law(law.length()), model.law(law.length()));
+    for (int k = 4 + r.nextInt(12); k > 0; k--) {
+      int x = r.nextInt(12), y = r.nextInt(12), length = 1 + r.nextInt(3), direction = r.nextInt(4);
+      same(seed, "awning", town.awning(x, y, length, direction, 0), model.awning(x, y, length, direction, 0));
+    }
+    for (int i = 0; i < 8; i++) {
+      int x = r.nextInt(12), y = r.nextInt(12);
+      town.buyer(i, x, y);
+      model.buyer(i, x, y);
+    }
+    int buyers = r.nextBoolean() ? 255 : 1 + r.nextInt(255);
+    for (int what = -1; what < 18; what += 1 + r.nextInt(5)) {
+      same(seed, law + " sale " + buyers + " " + what, town.sale(9, buyers, what), model.sale(9, buyers, what));
     }
   }
 
