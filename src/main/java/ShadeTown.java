@@ -1156,7 +1156,7 @@ public final class ShadeTown {
         }
 
         int whoCasts(int hour, int square) {
-            return isFree(square) ? whoReaches(hour, square) : 0;
+            return isFree(square) && isHour(hour) ? reached[hour * SQUARES + square] : 0;
         }
 
         /** Who would cast on a square if no house stood on it. */
