@@ -9,6 +9,7 @@ public final class BoundsOfLaw extends TownTest {
     lawOfNBytes();
     lawBeyondTheTape();
     lawOf240();
+    fullTexts();
     emptyThen();
     inPlaceOfTheOneBefore();
     textBeforeStays();
@@ -188,6 +189,34 @@ public final class BoundsOfLaw extends TownTest {
     ShadeTown exact = taped(right).make();
     due("the tape", exact.count(3), 240);
     due("law(240) of 240", exact.law(240), 2);
+  }
+
+  private static void fullTexts() {
+    says(3, "a TEXT of at most 240 bytes: all of it is asked");
+    String[] between = {"&", "|"};
+    for (int k = 0; k < 2; k++) {
+      for (int last = 7; last <= 8; last++) {
+        int ahead = k == 0 ? 7 : 8;
+        String text = "u(" + times("t=" + ahead + between[k], 58) + "t=00" + last + ")";
+        due("length", text.length(), 240);
+        ShadeTown x = new ShadeTown();
+        due("59 pieces", lawOf(x, text), 1);
+        due("59 pieces, the last is t=" + last, x.sun(7, 0), last == 7 ? 1 : 0);
+      }
+    }
+    String clauses = times("ct(t=1);", 15) + "ct(" + times("t<9&", 28) + "t=5)";
+    due("length", clauses.length(), 239);
+    ShadeTown x = new ShadeTown();
+    due("16 clauses", lawOf(x, clauses), 16);
+    due("the 16th", x.sun(5, 3), 5);
+    due("the 16th", x.sun(6, 3), 0);
+    // 1 and twice what is inside: 3, 7, 15, 31, 63, 127
+    String six = "1+2*[1+2*[1+2*[1+2*[1+2*[1+2*[1]]]]]]";
+    due("six [ that all wait", valueOf(under("w" + six + "(1=1)"), "w"), 127);
+    String five = "1+2*[1+2*[1+2*[1+2*[1+2*[1]]]]]";
+    due("five [ on both sides", holds(five + "=" + five), true);
+    due("five [ on both sides", holds(five + "=63&63=" + five), true);
+    due("five [ on both sides", holds(five + "=1+" + five), false);
   }
 
   private static void emptyThen() {

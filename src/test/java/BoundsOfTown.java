@@ -250,6 +250,10 @@ public final class BoundsOfTown extends TownTest {
       return x;
     }, x -> bit(x.move(2, 0, 0)), 0);
     ShadeTown x = whole();
+    due("it casts where it is", x.shade(6, 5, 8), 5);
+    x.move(2, 0, 10);
+    due("no more", x.shade(6, 5, 8), 1);
+    due("where it went", x.shade(2, 10, 8), 4);
     x.move(2, 11, 10);
     due("its SQUARE", x.casterIs(2, 1), 131);
     due("its HEIGHT", x.casterIs(2, 2), 6);

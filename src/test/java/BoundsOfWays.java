@@ -31,6 +31,7 @@ public final class BoundsOfWays extends TownTest {
     saleOfWorthless();
     saleOfLikeOnes();
     salePays();
+    saleOfManySquares();
     end();
   }
 
@@ -639,5 +640,72 @@ public final class BoundsOfWays extends TownTest {
     x.awning(7, 5, 1, 0, 0);
     due("three squares: nobody", x.sale(0, 7, 12), 0);
     due("three squares: together", x.sale(0, 7, NONE), 600);
+  }
+
+  /** Eight buyers at 0, 0 and the first squares of row 0 in shade. */
+  private static ShadeTown rowOf(int squares, String law) {
+    ShadeTown x = under(law);
+    for (int k = 0; k < squares; k++) {
+      x.awning(k, 0, 1, 0, 0);
+    }
+    for (int i = 0; i < 8; i++) {
+      x.buyer(i, 0, 0);
+    }
+    return x;
+  }
+
+  private static void saleOfManySquares() {
+    says(21, "to each one SQUARE at most, none to two: w together most; of like ones the least row by BUYERS");
+    for (int squares = 1; squares <= 12; squares++) {
+      ShadeTown alike = rowOf(squares, "u(1=1);w7(1=1)");
+      ShadeTown last = rowOf(squares, "u(1=1);w7+x(1=1)");
+      int sold = Math.min(8, squares);
+      int worth = 0;
+      for (int k = squares - sold; k < squares; k++) {
+        worth += 7 + k;
+      }
+      due(squares + " alike, together", alike.sale(0, 255, NONE), 7 * sold);
+      due(squares + " squares, together", last.sale(0, 255, NONE), worth);
+      for (int i = 0; i < 8; i++) {
+        due(squares + " alike, buyer " + i, alike.sale(0, 255, i), i < squares ? i : 144);
+        due(squares + " alike, pays " + i, alike.sale(0, 255, 10 + i), i < squares && squares < 8 ? 7 : 0);
+        int square = squares - sold + i;
+        due(squares + " squares, buyer " + i, last.sale(0, 255, i), i < sold ? square : 144);
+        // without it another would have what it has, or the others would move up from the last square that is sold
+        int others = squares < 8 ? (i < sold ? 7 + square : 0) : i;
+        due(squares + " squares, pays " + i, last.sale(0, 255, 10 + i), others);
+      }
+    }
+    // the last of the twelve is worth most to the first, the first most to the last
+    ShadeTown x = rowOf(12, "u(1=1);w900(x=11-i);w1(1=1)");
+    due("together", x.sale(0, 255, NONE), 7200);
+    for (int i = 0; i < 8; i++) {
+      due("buyer " + i, x.sale(0, 255, i), 11 - i);
+      due("pays", x.sale(0, 255, 10 + i), 0);
+    }
+    // all want square 11 most, then what is worth 1 more than nothing: the lowest ones by the row
+    x = rowOf(12, "u(1=1);w900+i(x=11);w1(x>2)");
+    due("together", x.sale(0, 255, NONE), 907 + 7);
+    for (int i = 0; i < 7; i++) {
+      due("buyer " + i, x.sale(0, 255, i), 3 + i);
+    }
+    due("buyer 7", x.sale(0, 255, 7), 11);
+    due("buyer 7 pays", x.sale(0, 255, 17), 905);
+    due("buyer 0 pays", x.sale(0, 255, 10), 0);
+    // one of the first eight is worth nothing: the ninth is sold in its place
+    for (int bad = 0; bad < 8; bad++) {
+      x = rowOf(12, "u(1=1);w0(x=" + bad + ");w5(1=1)");
+      due("together without " + bad, x.sale(0, 255, NONE), 40);
+      for (int i = 0; i < 8; i++) {
+        due("buyer " + i + " without " + bad, x.sale(0, 255, i), i < bad ? i : i + 1);
+      }
+    }
+    // two want square 7, one of them the squares behind it, too
+    x = rowOf(12, "u(1=1);w900(x=7);w1(i=1&x>7)");
+    due("together", x.sale(0, 3, NONE), 901);
+    due("buyer 0", x.sale(0, 3, 0), 7);
+    due("buyer 1", x.sale(0, 3, 1), 8);
+    due("buyer 0 pays", x.sale(0, 3, 10), 899);
+    due("buyer 1 pays", x.sale(0, 3, 11), 0);
   }
 }

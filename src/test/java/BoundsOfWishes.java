@@ -25,6 +25,7 @@ public final class BoundsOfWishes extends TownTest {
     takenDownByHours();
     takenDownHouses();
     takenDownSixteen();
+    takenDownOneByOne();
     noonArguments();
     noonPlaces();
     noonEightAtMost();
@@ -312,6 +313,10 @@ public final class BoundsOfWishes extends TownTest {
     due("its own, not to the north", x.bestAwning(3, 1), 1);
     x.wish(2, 6, 1, 0, 24, true, 1);
     due("its own, to the south", x.bestAwning(3, 1), 2);
+    x.down(0);
+    x.wish(3, 5, 0, 0, 24, true, 1);
+    due("its own still", x.bestAwning(3, 0), 17);
+    due("its own, to the west", x.bestAwning(3, 1), 3);
   }
 
   private static void awningOfFreeSquares() {
@@ -425,6 +430,16 @@ public final class BoundsOfWishes extends TownTest {
     due("to the edge: gets", x.hat(0, 10, 5, 0), 10);
     due("over the edge: gets", x.hat(0, 11, 5, 0), 0);
     due("over the edge: loses", x.hat(0, 11, 5, 1), 4);
+    // on the first square and on the last one
+    x = under("u(t=0);e0-1(1=1);n0(1=1)");
+    x.caster(3, 1, 0, 12, 0);
+    due("from 0: loses", x.hat(0, 5, 5, 1), 1);
+    x.move(0, 5, 5);
+    due("to 0: gets", x.hat(0, 1, 0, 0), 1);
+    lawOf(x, "u(t=23);e1(1=1)");
+    due("to 143: gets", x.hat(0, 10, 11, 0), 1);
+    x.move(0, 10, 11);
+    due("from 143: loses", x.hat(0, 5, 5, 1), 1);
   }
 
   // ---- promise 28
@@ -503,6 +518,23 @@ public final class BoundsOfWishes extends TownTest {
     for (int k = 15; k >= 0; k--) {
       x.wish(k, k % 12, k / 12, 0, 24, true, 1);
       due("from " + k + " on", x.takenDown(), 65536 - (1 << k));
+    }
+  }
+
+  private static void takenDownOneByOne() {
+    says(28, "houses that are gone leave FREE SQUARES, sixteen behind one another");
+    // twelve houses along row 0, four up the column 11; each casts on the next one's square, the last one on 11, 5
+    for (int gap = -1; gap < 16; gap++) {
+      ShadeTown x = under("u(t=12|t=13);e1(t=12);n1(t=13)");
+      for (int c = 0; c < 16; c++) {
+        x.caster(0, Math.min(c, 11), Math.max(0, c - 11), 12, 0);
+        boolean wished = c > 0 && c != gap;
+        if (wished) x.wish(c - 1, Math.min(c, 11), Math.max(0, c - 11), 0, 24, true, 1);
+      }
+      due("all stay", x.takenDown(), 0);
+      x.wish(15, 11, 5, 0, 24, true, 1);
+      // without the wish at the gap nobody behind it must go
+      due("without the wish on " + gap, x.takenDown(), gap <= 0 ? 65535 : 65535 & -1 << gap);
     }
   }
 

@@ -1,45 +1,6 @@
 // One part for each promise of the document: ordinary inputs, the edges it names, wrong inputs.
 // The answers that are due were reckoned by hand from the document.
-public final class ShadeTownPromises {
-  private static int wrong = 0;
-  private static int promise = 0;
-
-  private static void due(String call, long got, long want) {
-    if (got != want) {
-      wrong++;
-      System.out.println("promise " + promise + ": " + call + " answered " + got + ", due is " + want);
-    }
-  }
-
-  private static void due(String call, boolean got, boolean want) {
-    due(call, got ? 1L : 0L, want ? 1L : 0L);
-  }
-
-  /** Feeds a text, filled up with blanks, so that it stands first on an empty tape. */
-  private static void tape(ShadeTown x, String text) {
-    for (int from = 0; from < text.length(); from += 20) {
-      int[] five = new int[5];
-      for (int k = 0; k < 20; k++) {
-        int sign = from + k < text.length() ? text.charAt(from + k) : ' ';
-        five[k / 4] = five[k / 4] << 8 | sign;
-      }
-      x.feed(five[0], five[1], five[2], five[3], five[4]);
-    }
-  }
-
-  private static int lawOf(ShadeTown x, String text) {
-    tape(x, text);
-    return x.law(text.length());
-  }
-
-  private static ShadeTown under(String text) {
-    ShadeTown x = new ShadeTown();
-    if (lawOf(x, text) < 1) {
-      throw new IllegalStateException(text);
-    }
-    return x;
-  }
-
+public final class ShadeTownPromises extends TownTest {
   /** Up from 6 to 18; what is 12 high casts 3 to the east ahead of 12, 1 to the north at 12, 3 west behind. */
   private static final String SUN = "u(t>5&t<19);e3(t<12);e0-3(t>12);n1(t=12)";
 
@@ -47,14 +8,6 @@ public final class ShadeTownPromises {
     ShadeTown x = new ShadeTown();
     due("law of " + text, lawOf(x, text), want);
     due("tape after " + text, x.count(3), 0);
-  }
-
-  private static String times(String text, int n) {
-    StringBuilder all = new StringBuilder();
-    for (int k = 0; k < n; k++) {
-      all.append(text);
-    }
-    return all.toString();
   }
 
   public static void main(String[] args) {
@@ -100,12 +53,11 @@ public final class ShadeTownPromises {
     undo();
     check();
     count();
-    System.out.println(wrong == 0 ? "all promises are kept" : wrong + " answers are not as due");
-    if (wrong != 0) System.exit(1);
+    end();
   }
 
   private static void newObject() {
-    promise = 1;
+    promise(1);
     ShadeTown x = new ShadeTown();
     due("NONE", ShadeTown.NONE, -1);
     int[] want = {0, 0, 0, 0, 0, 1, 0, 0, 144};
@@ -126,7 +78,7 @@ public final class ShadeTownPromises {
   }
 
   private static void feed() {
-    promise = 2;
+    promise(2);
     ShadeTown x = new ShadeTown();
     for (int k = 1; k <= 13; k++) {
       due("feed", x.feed(k, k, k, k, k), 20 * k);
@@ -146,7 +98,7 @@ public final class ShadeTownPromises {
   }
 
   private static void law() {
-    promise = 3;
+    promise(3);
     ShadeTown x = new ShadeTown();
     due("law(0)", x.law(0), -1);
     due("law(1)", x.law(1), -1);
@@ -183,7 +135,7 @@ public final class ShadeTownPromises {
   }
 
   private static void lawFaults() {
-    promise = 3;
+    promise(3);
     fault("t(1=1)", -1000);
     fault(";", -1000);
     fault(" ", -1000);
@@ -264,7 +216,7 @@ public final class ShadeTownPromises {
   }
 
   private static void lawReckons() {
-    promise = 3;
+    promise(3);
     due("from the left on", valueOf("100-10-5"), 85);
     due("from the left on", valueOf("100/7*7"), 98);
     due("from the left on", valueOf("100*7/8%50"), 37);
@@ -310,7 +262,7 @@ public final class ShadeTownPromises {
   }
 
   private static void lawRefuses() {
-    promise = 3;
+    promise(3);
     due("an E is 0", valueOf("5+7/0"), 0);
     due("an E is 0", valueOf("5+7%0"), 0);
     due("an E is 0", valueOf("5+[7/s]*0"), 0);
@@ -328,7 +280,7 @@ public final class ShadeTownPromises {
   }
 
   private static void lawBounds() {
-    promise = 3;
+    promise(3);
     ShadeTown x = under("e99(1=1);n0-99(1=1);c11(t=0);c0-1(t=1);p100(t=0);p0-1(t=1);w1000(t=0);w0-1(t=1);g10(1=1)");
     due("e", x.sun(0, 1), 9);
     due("n", x.sun(0, 2), -9);
@@ -349,7 +301,7 @@ public final class ShadeTownPromises {
   }
 
   private static void caster() {
-    promise = 4;
+    promise(4);
     ShadeTown x = new ShadeTown();
     due("a house", x.caster(0, 3, 4, 12, 5), 0);
     due("a house there", x.caster(0, 3, 4, 1, 0), -2);
@@ -377,7 +329,7 @@ public final class ShadeTownPromises {
   }
 
   private static void awning() {
-    promise = 5;
+    promise(5);
     ShadeTown x = under(SUN);
     due("an awning", x.awning(10, 11, 3, 1, 2), 0);
     due("it goes beyond the town", x.cast(0, 12), 2);
@@ -407,7 +359,7 @@ public final class ShadeTownPromises {
   }
 
   private static void down() {
-    promise = 6;
+    promise(6);
     ShadeTown x = under(SUN);
     x.caster(0, 5, 5, 12, 0);
     x.awning(5, 5, 1, 0, 1);
@@ -425,7 +377,7 @@ public final class ShadeTownPromises {
   }
 
   private static void move() {
-    promise = 7;
+    promise(7);
     ShadeTown x = under(SUN);
     x.caster(3, 5, 5, 12, 0);
     x.caster(0, 6, 6, 12, 0);
@@ -455,7 +407,7 @@ public final class ShadeTownPromises {
   }
 
   private static void season() {
-    promise = 8;
+    promise(8);
     ShadeTown x = under("u(m=3);c9(m=2)");
     due("at first", x.sun(0, 0), 0);
     for (int m = 0; m < 4; m++) {
@@ -470,7 +422,7 @@ public final class ShadeTownPromises {
   }
 
   private static void casterIs() {
-    promise = 9;
+    promise(9);
     ShadeTown x = new ShadeTown();
     x.caster(0, 11, 10, 99, 5);
     x.caster(1, 0, 0, 1, 0);
@@ -490,7 +442,7 @@ public final class ShadeTownPromises {
   }
 
   private static void sun() {
-    promise = 10;
+    promise(10);
     ShadeTown x = under("u(t=5);e0-4(t=5|t=6);n2(t=6);c7(t>5)");
     due("up", x.sun(5, 0), 1);
     due("not up", x.sun(6, 0), 0);
@@ -507,7 +459,7 @@ public final class ShadeTownPromises {
   }
 
   private static void shade() {
-    promise = 11;
+    promise(11);
     // 9 east and 6 south: the greater is 9; 16 high: 12 squares, by 9k/9 and 6k/9 toward 0
     ShadeTown x = under("u(t<20);e9(1=1);n0-6(1=1)");
     x.caster(3, 2, 9, 16, 0);
@@ -563,7 +515,7 @@ public final class ShadeTownPromises {
   }
 
   private static void price() {
-    promise = 12;
+    promise(12);
     ShadeTown x = under("u(t<20);p10*x+y+s*20+t(1=1)");
     x.caster(1, 3, 4, 5, 0);
     x.awning(3, 4, 1, 0, 0);
@@ -582,7 +534,7 @@ public final class ShadeTownPromises {
   }
 
   private static void cast() {
-    promise = 13;
+    promise(13);
     ShadeTown x = under(SUN);
     x.caster(0, 5, 5, 12, 0);
     x.caster(1, 1, 1, 8, 0);
@@ -604,7 +556,7 @@ public final class ShadeTownPromises {
   }
 
   private static void led() {
-    promise = 14;
+    promise(14);
     ShadeTown x = under("u(t<7)");
     x.awning(0, 0, 2, 1, 1);
     x.awning(0, 0, 1, 1, 2);
@@ -634,7 +586,7 @@ public final class ShadeTownPromises {
   }
 
   private static void longest() {
-    promise = 15;
+    promise(15);
     ShadeTown x = under("u(t>1&t<5|t=7|t>19);e1(t<8)");
     x.caster(0, 0, 0, 12, 0);
     x.awning(5, 5, 1, 0, 0);
@@ -659,7 +611,7 @@ public final class ShadeTownPromises {
   }
 
   private static void donkey() {
-    promise = 16;
+    promise(16);
     ShadeTown x = under("u(t>5&t<19);n1(t>9)");
     due("none", x.donkey(0), -2);
     due("none", x.donkey(1), -2);
@@ -686,7 +638,7 @@ public final class ShadeTownPromises {
   }
 
   private static void strip() {
-    promise = 17;
+    promise(17);
     // awnings: 0 and 1 beside one another, 24 alone and dearer by one
     ShadeTown x = under("u(t<20);p3(y=2);p1+[t%2]*[1-x]*2+[1-t%2]*x*2(1=1)");
     x.awning(0, 0, 2, 1, 0);
@@ -743,7 +695,7 @@ public final class ShadeTownPromises {
   }
 
   private static void walk() {
-    promise = 18;
+    promise(18);
     ShadeTown x = under("u(t>5&t<19)");
     due("by night", x.walk(0, 143, 0, 0), 22);
     due("by night", x.walk(0, 143, 0, 1), 0);
@@ -804,7 +756,7 @@ public final class ShadeTownPromises {
   }
 
   private static void buyer() {
-    promise = 19;
+    promise(19);
     ShadeTown x = under("w100-d(1=1)");
     for (int i = 0; i < 8; i++) {
       due("buyer", x.buyer(i, i, 11 - i), true);
@@ -823,7 +775,7 @@ public final class ShadeTownPromises {
   }
 
   private static void worth() {
-    promise = 20;
+    promise(20);
     ShadeTown x = under("u(t=9);w100*i+10*d+s(t=9);w7(m=1)");
     x.buyer(2, 4, 4);
     x.awning(6, 1, 1, 0, 0);
@@ -842,7 +794,7 @@ public final class ShadeTownPromises {
   }
 
   private static void sale() {
-    promise = 21;
+    promise(21);
     // squares 0, 1, 2 are in shade; buyers 0 and 1 want 0 most
     ShadeTown x = under("u(t=12);w50-x*9(i=0);w60-x*40(i=1);w5(1=1)");
     x.awning(0, 0, 3, 1, 0);
@@ -929,7 +881,7 @@ public final class ShadeTownPromises {
   }
 
   private static void wish() {
-    promise = 22;
+    promise(22);
     ShadeTown x = under("u(1=1)");
     due("a wish", x.wish(0, 0, 0, 0, 24, true, 99), true);
     due("a wish", x.wish(15, 11, 11, 23, 24, false, 1), true);
@@ -948,7 +900,7 @@ public final class ShadeTownPromises {
   }
 
   private static void kept() {
-    promise = 23;
+    promise(23);
     ShadeTown x = under(SUN);
     x.caster(0, 5, 5, 12, 0);
     x.wish(0, 6, 5, 4, 14, false, 9);
@@ -968,7 +920,7 @@ public final class ShadeTownPromises {
   }
 
   private static void happy() {
-    promise = 24;
+    promise(24);
     ShadeTown x = under(SUN);
     due("nobody", x.happy(), 0);
     x.caster(0, 5, 5, 12, 0);
@@ -981,7 +933,7 @@ public final class ShadeTownPromises {
   }
 
   private static void storey() {
-    promise = 25;
+    promise(25);
     ShadeTown x = under(SUN);
     x.caster(0, 2, 5, 12, 0);
     x.caster(3, 0, 0, 12, 0);
@@ -1023,7 +975,7 @@ public final class ShadeTownPromises {
   }
 
   private static void bestAwning() {
-    promise = 26;
+    promise(26);
     ShadeTown x = under("u(t<10)");
     due("the lowest", x.bestAwning(3, 0), 0);
     due("the lowest", x.bestAwning(3, 1), 0);
@@ -1065,7 +1017,7 @@ public final class ShadeTownPromises {
   }
 
   private static void hat() {
-    promise = 27;
+    promise(27);
     ShadeTown x = under("u(t<10);e1(1=1)");
     x.caster(3, 0, 0, 24, 0);
     x.awning(2, 0, 2, 1, 0);
@@ -1095,7 +1047,7 @@ public final class ShadeTownPromises {
   }
 
   private static void takenDown() {
-    promise = 28;
+    promise(28);
     ShadeTown x = under(SUN);
     due("nothing", x.takenDown(), 0);
     x.caster(0, 5, 5, 12, 0);
@@ -1131,7 +1083,7 @@ public final class ShadeTownPromises {
   }
 
   private static void noon() {
-    promise = 29;
+    promise(29);
     ShadeTown x = under("u(t=12)");
     x.awning(0, 0, 3, 1, 0);
     for (int i = 0; i < 8; i += 2) {
@@ -1163,7 +1115,7 @@ public final class ShadeTownPromises {
   }
 
   private static void years() {
-    promise = 30;
+    promise(30);
     ShadeTown x = under("g1+o+m*2(h<20);g3(h>89);g9+t+x+y+s+i+d(h=50)");
     x.caster(1, 5, 5, 19, 4);
     x.caster(1, 5, 6, 94, 0);
@@ -1203,7 +1155,7 @@ public final class ShadeTownPromises {
   }
 
   private static void days() {
-    promise = 31;
+    promise(31);
     // X from 1: 39022, 61087, 20196, 45005, ...
     ShadeTown x = under("u(t<3);c2(t=0);c3(t=1);c7(t=2);p10+t(1=1)");
     x.awning(0, 0, 2, 1, 3);
@@ -1240,7 +1192,7 @@ public final class ShadeTownPromises {
   }
 
   private static void purse() {
-    promise = 32;
+    promise(32);
     ShadeTown x = under("u(t=0);p5(1=1)");
     x.awning(0, 0, 1, 0, 0);
     x.awning(1, 0, 2, 0, 5);
@@ -1255,7 +1207,7 @@ public final class ShadeTownPromises {
   }
 
   private static void odds() {
-    promise = 33;
+    promise(33);
     ShadeTown x = under("u(t>0);c5(t<2);c4(t=2);c1(t>2)");
     due("the night does not matter", x.odds(0, 1, 0), 1);
     due("the night does not matter", x.odds(0, 1, 1), 1);
@@ -1285,7 +1237,7 @@ public final class ShadeTownPromises {
   }
 
   private static void seed() {
-    promise = 34;
+    promise(34);
     ShadeTown x = under("u(t=0);c5(1=1);p5(1=1)");
     x.awning(0, 0, 1, 0, 0);
     due("seed", x.seed(0), true);
@@ -1302,7 +1254,7 @@ public final class ShadeTownPromises {
   }
 
   private static void keep() {
-    promise = 35;
+    promise(35);
     ShadeTown x = new ShadeTown();
     due("none stands", x.keep(), 0);
     x.caster(0, 0, 0, 1, 0);
@@ -1317,7 +1269,7 @@ public final class ShadeTownPromises {
   }
 
   private static void undo() {
-    promise = 36;
+    promise(36);
     ShadeTown x = under("u(m=1);p5(1=1);g1(1=1)");
     due("none was kept", x.undo(), false);
     x.season(1);
@@ -1362,7 +1314,7 @@ public final class ShadeTownPromises {
   }
 
   private static void check() {
-    promise = 37;
+    promise(37);
     ShadeTown x = under("u(t=12)");
     x.awning(1, 4, 3, 1, 0);
     x.caster(1, 2, 4, 1, 0);
@@ -1403,7 +1355,7 @@ public final class ShadeTownPromises {
   }
 
   private static void count() {
-    promise = 38;
+    promise(38);
     ShadeTown x = under("u(1=1);c1(1=1);p1(1=1)");
     x.caster(0, 0, 0, 1, 0);
     x.caster(0, 1, 0, 1, 0);

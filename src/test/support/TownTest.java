@@ -28,6 +28,11 @@ abstract class TownTest {
     sentence = "promise " + promise + ", \"" + words + "\": ";
   }
 
+  /** The promise that the rows below are about, as a whole. */
+  static void promise(int number) {
+    sentence = "promise " + number + ": ";
+  }
+
   static void due(String call, long got, long want) {
     asked++;
     if (got != want) {
