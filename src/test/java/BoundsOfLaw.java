@@ -246,6 +246,15 @@ public final class BoundsOfLaw extends TownTest {
     due("g", x.years(60), 0);
     due("clauses", x.count(2), 1);
     due("the tree by night", x.shade(0, 0, 0), 0);
+    // as often as it may be: 30 long texts
+    x = new ShadeTown();
+    for (int k = 0; k < 30; k++) {
+      String text = "u(t=" + k % 10 + ");p" + (10 + k) + "(" + times("t=t&", 55) + "1=1)";
+      due("text " + k, lawOf(x, text), 2);
+      due("text " + k, x.price(0, 0, k % 10), 10 + k);
+      due("text " + k, x.sun(k % 10, 0), 1);
+      due("text " + k, x.sun((k + 1) % 10, 0), 0);
+    }
   }
 
   private static void textBeforeStays() {
